@@ -310,6 +310,23 @@ public final class PromiseTests {
         y.row(pack(1, 1, 0), 0);
         due("gain 16/30: train", y.train(), 2);
         dueTree("gain 16/30", y, 0, stump(1, 0, leaf(1, 2), leaf(0, 3)));
+
+        HistogramTree z = new HistogramTree(1);
+        z.row(pack(0, 0, 0), 0);
+        z.row(pack(1, 0, 0), 1);
+        z.row(pack(1, 0, 0), 0);
+        due("gain 1/6: train", z.train(), 2);
+        dueTree("gain 1/6", z, 0, stump(0, 0, leaf(0, 1), leaf(0, 2)));
+
+        // Feature 0: 64/1 + 16/3 - 16/4 = 65 1/3. Feature 1: 100/2 + 36/2 - 16/4 = 64.
+        HistogramTree u = new HistogramTree(1);
+        u.row(pack(0, 0, 0), 8);
+        u.row(pack(1, 0, 0), 2);
+        u.row(pack(1, 1, 0), -3);
+        u.row(pack(1, 1, 0), -3);
+        due("one row against three: train", u.train(), 3);
+        dueTree("one row against three", u, 0, new int[][] {
+            split(0, 0, 4), leaf(8, 1), split(1, 0, 3), none(), none(), leaf(2, 1), leaf(-3, 2)});
     }
 
     private static void trainBreaksTies() {
