@@ -694,22 +694,51 @@ public final class BoundaryTests {
         due("rest", x.rest(0), 33);
     }
 
+    /** What is known of the object beforehand, so that no query has a hand in what is due. */
+    private static void dueLeftHeavy(String what, HistogramTree x) {
+        int[] features = {0, 2, LEAF, LEAF, LEAF, EMPTY, EMPTY};
+        int[] bounds = {0, 1, LEAF, LEAF, LEAF, EMPTY, EMPTY};
+        int[] values = {0, 0, 50, -50, -30, 0, 0};
+        int[] rows = {4, 2, 2, 1, 1, 0, 0};
+        for (int node = 0; node < 7; node++) {
+            String at = "(0, " + node + ")";
+            due(what + ", then feature" + at, x.feature(0, node), features[node]);
+            due(what + ", then bound" + at, x.bound(0, node), bounds[node]);
+            due(what + ", then value" + at, x.value(0, node), values[node]);
+            due(what + ", then rows" + at, x.rows(0, node), rows[node]);
+        }
+        int[] targets = {-50, -30, 50, 50};
+        for (int i = 0; i < 4; i++) {
+            due(what + ", then retarget(" + i + ", 1)", x.retarget(i, 1), targets[i]);
+        }
+        due(what + ", then row", x.row(0, 0), 5);
+        due(what + ", then dropTree", x.dropTree(), 0);
+        due(what + ", then dropTree again", x.dropTree(), EMPTY);
+    }
+
+    private static void dueQueryChangesNothing(String what, Consumer<HistogramTree> calls) {
+        HistogramTree x = leftHeavy();
+        calls.accept(x);
+        dueLeftHeavy(what, x);
+        dueNoChange(what, () -> grown(20, 3), calls);
+    }
+
     private static void queriesChangeNothing() {
         int[] numbers = {MIN, -1, 0, 1, 3, 4, 6, 7, 24, MAX};
-        dueNoChange("predict", () -> grown(20, 3), x -> { for (int a : numbers) x.predict(a); });
-        dueNoChange("rest", () -> grown(20, 3), x -> { for (int a : numbers) x.rest(a); });
-        dueNoChange("loss", () -> grown(20, 3), x -> { for (int a : numbers) x.loss(); });
-        List<NodeQuery> queries = List.of(
-            HistogramTree::feature, HistogramTree::bound, HistogramTree::value, HistogramTree::rows);
-        for (int k = 0; k < queries.size(); k++) {
-            NodeQuery query = queries.get(k);
-            dueNoChange("node query " + k, () -> grown(20, 3), x -> {
-                for (int a : numbers) {
-                    for (int b : numbers) {
-                        query.ask(x, a, b);
-                    }
-                }
-            });
+        dueQueryChangesNothing("predict", x -> { for (int a : numbers) x.predict(a); });
+        dueQueryChangesNothing("rest", x -> { for (int a : numbers) x.rest(a); });
+        dueQueryChangesNothing("loss", x -> { for (int a : numbers) x.loss(); });
+        dueQueryChangesNothing("feature", x -> askAll(x, HistogramTree::feature, numbers));
+        dueQueryChangesNothing("bound", x -> askAll(x, HistogramTree::bound, numbers));
+        dueQueryChangesNothing("value", x -> askAll(x, HistogramTree::value, numbers));
+        dueQueryChangesNothing("rows", x -> askAll(x, HistogramTree::rows, numbers));
+    }
+
+    private static void askAll(HistogramTree x, NodeQuery query, int[] numbers) {
+        for (int tree : numbers) {
+            for (int node : numbers) {
+                query.ask(x, tree, node);
+            }
         }
     }
 
