@@ -6,6 +6,7 @@ import java.nio.file.Files;
 import java.nio.file.Path;
 import java.util.Map;
 import java.util.Set;
+import java.util.TreeMap;
 import java.util.TreeSet;
 import java.util.regex.Matcher;
 import java.util.regex.Pattern;
@@ -25,13 +26,19 @@ public final class FaceTests {
         "Object", "Math", "Integer", "Long", "System", "Arrays", "null", "throw", "throws", "try", "catch", "finally",
         "synchronized", "assert", "instanceof", "super", "protected", "abstract", "native", "var", "length"};
 
+    private static final int MAX_DEPTH = 6;
+
     private static int wrong = 0;
 
     public static void main(String[] args) throws Exception {
         constantsAndFields();
         methods();
         constructors();
-        text(Files.readString(Path.of("src/main/java/HistogramTree.java")));
+        String source = Files.readString(Path.of("src/main/java/HistogramTree.java"));
+        String code = source.replaceAll("(?s)/\\*.*?\\*/", " ").replaceAll("//[^\n]*", " ");
+        text(code);
+        loops(code);
+        calls(code);
         System.out.println(wrong == 0 ? "the face is as due" : wrong + " faults");
         if (wrong != 0) {
             System.exit(1);
@@ -105,8 +112,7 @@ public final class FaceTests {
             && HistogramTree.class.getDeclaredClasses().length == 0, "the class is not one plain class (rule 1)");
     }
 
-    private static void text(String source) {
-        String code = source.replaceAll("(?s)/\\*.*?\\*/", " ").replaceAll("//[^\n]*", " ");
+    private static void text(String code) {
         for (String word : FORBIDDEN) {
             check(!Pattern.compile("\\b" + word + "\\b").matcher(code).find(), "the class uses " + word);
         }
@@ -118,6 +124,50 @@ public final class FaceTests {
             "something is made outside a field's initialiser (rule 4)");
         check(count(code, "\\b[a-z]\\w*\\([^()]*\\b(?!if|for|while|switch|return)[a-z]\\w*\\([^()]*\\)[^()]*\\)\\s*;") == 0,
             "a call inside the arguments of another call (rule 10)");
+    }
+
+    /** Every loop counts up by one to a bound, and its body sets neither the counter nor the bound. */
+    private static void loops(String code) {
+        check(count(code, "\\b(while|do)\\b") == 0, "a loop without a counter in its head (rule 8)");
+        Matcher heads = Pattern.compile("(?m)^( +)for \\(int (\\w+) = 0; \\2 < (\\w+); \\2\\+\\+\\) \\{$").matcher(code);
+        int found = 0;
+        while (heads.find()) {
+            found++;
+            String body = code.substring(heads.end(), code.indexOf("\n" + heads.group(1) + "}", heads.end()));
+            check(!sets(body, heads.group(2)) && !sets(body, heads.group(3)),
+                "a loop over " + heads.group(2) + " sets its counter or bound (rule 8)");
+        }
+        check(found == count(code, "\\bfor\\b"), "a loop that does not count up to a bound (rule 8)");
+    }
+
+    private static boolean sets(String body, String name) {
+        return count(body, "\\b" + name + "\\s*([-+*/%&|^]|<<|>>>?)?=(?!=)") > 0
+            || count(body, "\\b" + name + "\\s*(\\+\\+|--)|(\\+\\+|--)\\s*" + name + "\\b") > 0;
+    }
+
+    /** No recursion, calls at most six deep, methods of at most sixty lines. */
+    private static void calls(String code) {
+        Map<String, String> bodies = new TreeMap<>();
+        Matcher methods = Pattern.compile("(?ms)^    (?:public|private) (?:static )?(?:\\w+ )?(\\w+)\\([^)]*\\) \\{(.*?)^    \\}$")
+            .matcher(code);
+        while (methods.find()) {
+            bodies.put(methods.group(1), methods.group(2));
+            check(count(methods.group(2), "\n") < 60, methods.group(1) + " is long (rule 10)");
+        }
+        check(bodies.size() == HistogramTree.class.getDeclaredMethods().length + 1, "the methods found are " + bodies.keySet());
+        for (String name : bodies.keySet()) {
+            check(depth(bodies, name, 1) <= MAX_DEPTH, "calls from " + name + " go too deep or in a ring (rules 8, 10)");
+        }
+    }
+
+    private static int depth(Map<String, String> bodies, String name, int above) {
+        int deepest = above;
+        for (String called : bodies.keySet()) {
+            if (above <= MAX_DEPTH && count(bodies.get(name), "\\b" + called + "\\(") > 0) {
+                deepest = Math.max(deepest, depth(bodies, called, above + 1));
+            }
+        }
+        return deepest;
     }
 
     private static int count(String code, String pattern) {
